@@ -525,6 +525,8 @@ public final class FogIsland {
         final int[] xs;
         final int[] ys;
         final int[] sorts;
+
+        // The same land twice: by y a bit for each x, and by x a bit for each y.
         final int[] landRows = new int[SIDE];
         final int[] landColumns = new int[SIDE];
 
@@ -566,17 +568,23 @@ public final class FogIsland {
         }
 
         void drawLand() {
-            for (int i = 1; i < corners; i += 2) {
-                int other = i + 1 < corners ? i + 1 : 0;
-                // A side at the right edge has no cell beyond it, and a shift by 32 would be one by 0.
-                int beyond = xs[i] < SIDE ? -1 << xs[i] : 0;
-                int to = Math.min(SIDE, Math.max(ys[i], ys[other]));
-                for (int y = Math.max(0, Math.min(ys[i], ys[other])); y < to; y++) {
-                    landRows[y] ^= beyond;
+            for (int i = 0; i < corners; i++) {
+                int next = i + 1 < corners ? i + 1 : 0;
+                if ((i & 1) == 1) {
+                    turnBeyond(landRows, ys[i], ys[next], xs[i]);
+                } else {
+                    turnBeyond(landColumns, xs[i], xs[next], ys[i]);
                 }
             }
-            for (int cell = 0; cell < CELLS; cell++) {
-                landColumns[cell & 31] |= ((landRows[cell >> 5] >>> (cell & 31)) & 1) << (cell >> 5);
+        }
+
+        /** A side makes water of land and land of water in all cells beyond it. */
+        private static void turnBeyond(int[] rows, int a, int b, int place) {
+            // A side at the far edge has no cell beyond it, and a shift by 32 would be one by 0.
+            int beyond = place < SIDE ? -1 << place : 0;
+            int to = Math.min(SIDE, Math.max(a, b));
+            for (int i = Math.max(0, Math.min(a, b)); i < to; i++) {
+                rows[i] ^= beyond;
             }
         }
 
@@ -790,7 +798,7 @@ public final class FogIsland {
             at = 0;
             fault = 0;
             boolean more = true;
-            while (more && law.clauses < MOST_CLAUSES) {
+            for (int i = 0; more && i < MOST_CLAUSES; i++) {
                 expect('v');
                 readSum(0);
                 law.endSum();
@@ -813,7 +821,7 @@ public final class FogIsland {
             int part = NONE;
             int piece = NONE;
             boolean more = true;
-            while (more && at <= length) {
+            for (int i = 0; more && i < MOST_TEXT; i++) {
                 readPiece(open);
                 law.aimHere(piece);
                 piece = NONE;
@@ -856,10 +864,10 @@ public final class FogIsland {
         private void readSum(int open) {
             int waiting = NONE;
             boolean more = true;
-            while (more && at <= length) {
+            for (int i = 0; more && i < MOST_TEXT; i++) {
                 readFactor(open);
                 int order = takesOneOf('*', '/', '%', Law.TIMES);
-                while (order != NONE && at <= length) {
+                for (int k = 0; order != NONE && k < MOST_TEXT; k++) {
                     readFactor(open);
                     law.add(order, 0);
                     order = takesOneOf('*', '/', '%', Law.TIMES);
@@ -928,7 +936,9 @@ public final class FogIsland {
         }
 
         private void expect(char sign) {
-            if (!takes(sign)) {
+            if (sign() == sign) {
+                at++;
+            } else {
                 stop(CANT_STAND);
             }
         }
@@ -1141,6 +1151,7 @@ public final class FogIsland {
                 }
             }
         }
+
         /** Goes on from where the coast was left: most calls add one note or one line. */
         void follow(Coast coast) {
             for (int i = Math.max(0, coast.linesDone - 1); i < size; i++) {

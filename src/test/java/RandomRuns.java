@@ -21,6 +21,9 @@ public final class RandomRuns {
     private int hour;
     private int wind;
 
+    // How often something opens in a law: mostly seldom, now and then too deep.
+    private int opening = 15;
+
     private RandomRuns(long seed) {
         this.seed = seed;
         this.random = new Random(seed);
@@ -143,11 +146,11 @@ public final class RandomRuns {
     }
 
     private String factor(int depth) {
-        if (depth < 6 && chance(15)) {
+        if (depth < (opening > 15 ? 9 : 6) && chance(opening)) {
             return "[" + sum(depth + 1) + "]";
         }
         if (chance(35)) {
-            return chance(80) ? "" + pick(0, 9) : chance(80) ? "" + pick(0, 99999) : "0" + pick(0, 9999);
+            return chance(80) ? "" + pick(0, 9) : chance(80) ? "" + pick(0, 99999) : "0" + pick(0, 20000);
         }
         return "" + "bkshqdurnd".charAt(random.nextInt(10));
     }
@@ -161,10 +164,10 @@ public final class RandomRuns {
     }
 
     private String piece(int depth) {
-        if (depth < 6 && chance(20)) {
+        if (depth < (opening > 15 ? 9 : 6) && chance(opening)) {
             return "!" + piece(depth + 1);
         }
-        if (depth < 6 && chance(15)) {
+        if (depth < (opening > 15 ? 9 : 6) && chance(opening)) {
             return "(" + condition(depth + 1) + ")";
         }
         return sum(depth) + "<>=".charAt(random.nextInt(3)) + sum(depth);
@@ -174,9 +177,7 @@ public final class RandomRuns {
         if (chance(4)) {
             return "v1(1=2);".repeat(pick(9, 13)) + (chance(50) ? "v5(1=1)" : chance(50) ? "" : "w");
         }
-        if (chance(4)) {
-            return "v5" + "(!([".repeat(pick(1, 3)) + "1]=1)))";
-        }
+        opening = chance(10) ? 50 : 15;
         StringBuilder b = new StringBuilder();
         int clauses = pick(1, 4);
         for (int i = 0; i < clauses; i++) {
@@ -306,12 +307,16 @@ public final class RandomRuns {
                 same(call("box", x, y, toX, toY), fog.box(x, y, toX, toY) ? 1 : 0, naive.box(x, y, toX, toY) ? 1 : 0);
                 break;
             default:
-                int i = about(0, 5);
-                int dx = about(-9, 9);
-                int dy = about(-9, 9);
-                int d = about(0, 3);
-                same(call("choice", i, dx, dy, d), fog.choice(i, dx, dy, d) ? 1 : 0, naive.choice(i, dx, dy, d) ? 1 : 0);
+                choice();
         }
+    }
+
+    private void choice() {
+        int i = about(0, 5);
+        int dx = about(-9, 9);
+        int dy = about(-9, 9);
+        int d = about(0, 3);
+        same(call("choice", i, dx, dy, d), fog.choice(i, dx, dy, d) ? 1 : 0, naive.choice(i, dx, dy, d) ? 1 : 0);
     }
 
     private void checkRows() {
@@ -416,6 +421,9 @@ public final class RandomRuns {
         }
         law();
         placeCrew();
+        for (int i = chance(70) ? pick(1, 6) : 0; i > 0; i--) {
+            choice();
+        }
         int calls = pick(20, 110);
         for (int i = 0; i < calls && !failed; i++) {
             int kind = random.nextInt(100);
