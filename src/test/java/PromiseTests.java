@@ -1,5 +1,5 @@
 /** For each promise of the document its ordinary answers, its edges and its refusals, reckoned by hand. */
-public final class PromiseTests {
+public final class PromiseTests extends Worlds {
     private static int wrong = 0;
     private static int asked = 0;
     private static String promise = "";
@@ -14,49 +14,6 @@ public final class PromiseTests {
 
     private static void due(String what, boolean got, boolean want) {
         due(what, got ? 1 : 0, want ? 1 : 0);
-    }
-
-    private static void feedBytes(FogIsland f, int... bytes) {
-        for (int from = 0; from < bytes.length; from += 20) {
-            int[] n = new int[5];
-            for (int i = 0; i < 20; i++) {
-                n[i / 4] = n[i / 4] << 8 | (from + i < bytes.length ? bytes[from + i] & 255 : 0);
-            }
-            f.feed(n[0], n[1], n[2], n[3], n[4]);
-        }
-    }
-
-    private static int law(FogIsland f, String text) {
-        int[] bytes = new int[text.length()];
-        for (int i = 0; i < bytes.length; i++) {
-            bytes[i] = text.charAt(i);
-        }
-        feedBytes(f, bytes);
-        return f.law(bytes.length);
-    }
-
-    private static int coast(FogIsland f, int... bytes) {
-        feedBytes(f, bytes);
-        return f.coast(bytes.length / 3);
-    }
-
-    /** A rectangle from x, y up to but not with toX, toY; sides: below, right, above, left. */
-    private static int island(FogIsland f, int[] corners, int... sorts) {
-        int x = corners[0];
-        int y = corners[1];
-        int toX = corners[2];
-        int toY = corners[3];
-        return coast(f, x, y, toX, y, toX, toY, x, toY, sorts[0], sorts[1], sorts[2], sorts[3]);
-    }
-
-    private static int[] from(int x, int y, int toX, int toY) {
-        return new int[] {x, y, toX, toY};
-    }
-
-    private static FogIsland withSquare() {
-        FogIsland f = new FogIsland();
-        island(f, from(10, 10, 20, 20), 0, 1, 2, 0);
-        return f;
     }
 
     public static void main(String[] args) {
