@@ -116,6 +116,14 @@ final class LawSentences extends Sentences {
         due("one", law(f, "v4(0=1)"), 1);
         due("nothing of those before", f.level(0, 0, 0, 0, 0, 0), 0);
         due("CLAUSES", f.count(2), 1);
+        law(f, "v1(0=1);v2(0=0)");
+        law(f, "v3(0=0)");
+        law(f, "v4(0=1)");
+        due("nothing of the last but one", f.level(0, 0, 0, 0, 0, 0), 0);
+        for (int i = 10; i < 22; i++) {
+            due("a long one, time and again", law(f, "v" + "0+".repeat(75) + i + "(0=0)"), 1);
+            due("its LEVEL", f.level(0, 0, 0, 0, 0, 0), i);
+        }
         for (int n = 1; n <= 12; n++) {
             due(n + " CLAUSES", law(f, clauses(n)), n);
             due("count(2)", f.count(2), n);
@@ -431,6 +439,12 @@ final class LawSentences extends Sentences {
         for (int i = 0; i < texts.length; i++) {
             due(texts[i], heard(texts[i]), want[i]);
         }
+        // In each bracket a number waits before the + and one before the *.
+        String six = "1+1*[1+1*[1+1*[1+1*[1+1*[1+1*[1+1*3]]]]]]";
+        String five = "1+1*[1+1*[1+1*[1+1*[1+1*[1+1*3]]]]]";
+        due("as much as can wait, in the E of a CLAUSE", heard("v" + six + "(0=0)"), 10);
+        due("as much as can wait, before the sign", heard("v5(" + five + "=9);v6(0=0)"), 5);
+        due("as much as can wait, behind the sign", heard("v5(9=" + five + ");v6(0=0)"), 5);
         says(9, "All is reckoned with 32 bits, as the machine does;");
         String[] holds = {"65536*65536=0", "46341*46341<0", "46340*46340>0", "32767*65536+65535>0", "32767*65536+65535+1<0",
             "0-32768*65536-1>0", "32768*65536<0", "32768*65536/[0-1]<0", "32768*65536%[0-1]=0", "[0-7]/2=0-3", "[0-7]%4=0-3", "7/[0-2]=0-3",
@@ -446,11 +460,17 @@ final class LawSentences extends Sentences {
         says(9, "one of which must hold; a PART: PIECES with an & between two, all of which must;");
         String[] texts = {"0=0", "0=1", "0=0&0=0", "0=0&0=1", "0=1&0=0", "0=1|0=1", "0=1|0=0", "0=0|0=1", "0=1&0=0|0=0", "0=0|0=0&0=1",
             "0=1|0=1|0=0", "0=0&0=0&0=1", "!0=1", "!0=0", "!!0=0", "!(0=0|0=1)", "!(0=1)&0=0", "!0=1&0=1", "!0=0|0=0", "(0=1|0=0)&0=0", "(0=0|0=0)&0=1",
-            "1<2", "2<2", "3<2", "3>2", "2>2", "1>2", "2=2", "2=1"};
+            "1<2", "2<2", "3<2", "3>2", "2>2", "1>2", "2=2", "2=1", "0=1&!0=1", "0=0|!0=0", "0=0&!0=1|!0=0", "0=1&!0=1|0=0&!0=1"};
         boolean[] truth = {true, false, true, false, false, false, true, true, true, true, true, false, true, false, true, false, true, false, true, true, false,
-            true, false, false, true, false, false, true, false};
+            true, false, false, true, false, false, true, false, false, true, true, true};
         for (int i = 0; i < texts.length; i++) {
             due(texts[i], heard("v1(" + texts[i] + ")"), truth[i] ? 1 : 0);
+        }
+        for (int n = 0; n <= 35; n++) {
+            due(n + " that hold and one more", heard("v5(" + "0=0&".repeat(n) + "0=0);v6(0=0)"), 5);
+            due(n + " that hold and one that does not", heard("v5(" + "0=0&".repeat(n) + "0=1);v6(0=0)"), 6);
+            due(n + " that do not hold and one that does", heard("v5(" + "0=1|".repeat(n) + "0=0);v6(0=0)"), 5);
+            due(n + " that do not hold and one more", heard("v5(" + "0=1|".repeat(n) + "0=1);v6(0=0)"), 6);
         }
     }
 

@@ -161,8 +161,26 @@ final class LogSentences extends Sentences {
         f.back();
         due("no LINE again", f.hears(0, 0, 99), -1);
         sixNotes();
+        heardAtItsOwnTime();
         notesOfTheLastLine();
         errors();
+    }
+
+    private static void heardAtItsOwnTime() {
+        says(11, "a DRIFT (0 to 3), an HOUR, a WIND. NOTES of a LINE (6 at most): a SOUNDER was heard at a LEVEL");
+        FogIsland f = withSquare();
+        f.sounder(0, 0, 0, 50);
+        law(f, "vh*4+q(0=0)");
+        f.box(0, 5, 0, 5);
+        f.line(0, 0, 0, 20, 3);
+        f.hears(0, 83, 0);
+        due("at the HOUR and the WIND of LINE 0", f.fits(0), 1);
+        f.line(0, 0, 0, 1, 2);
+        due("another LEVEL", f.level(0, 0, 9, 9, 5, 1), 21);
+        f.hears(0, 6, 0);
+        due("at those of LINE 1", f.fits(0), 1);
+        f.hears(0, 83, 0);
+        due("not at those of LINE 0", f.firstBad(0), 1);
     }
 
     private static void sixNotes() {
@@ -232,7 +250,8 @@ final class LogSentences extends Sentences {
         says(12, "an ECHO that comes or may come after just so many counts, or 0 that does not come or may not)");
         // A CELL, a DIRECTION, the counts that hold there.
         int[][] cells = {{15, 8, 0, 4, -1}, {8, 15, 1, 4, -1}, {21, 15, 3, 0, -1}, {15, 21, 2, 4, 0}, {0, 0, 0, 0, -1}, {15, 31, 0, 0, -1},
-            {15, 9, 0, 2, -1}, {15, 20, 2, 2, 0}, {20, 15, 3, 0, -1}};
+            {15, 9, 0, 2, -1}, {15, 20, 2, 2, 0}, {20, 15, 3, 0, -1}, {0, 15, 1, 20, -1}, {15, 0, 0, 20, -1}, {31, 15, 3, 0, -1},
+            {15, 31, 2, 24, 0}};
         for (int[] c : cells) {
             for (int count = 0; count <= 64; count++) {
                 FogIsland f = squareAt(c[0], c[1]);
@@ -495,6 +514,10 @@ final class LogSentences extends Sentences {
             range(0, 1), range(0, 1), range(0, 31), range(0, 31));
         due("no LINE", withSquare().isPossible(0, 0, 0, 0), -1);
         possibleByLaterLines();
+        possibleByLaterLand();
+        possibleByAnotherStart();
+        possibleByWrongNotes();
+        wrongNotesAskedByAndBy();
     }
 
     private static void possibleByLaterLines() {
@@ -513,5 +536,129 @@ final class LogSentences extends Sentences {
         due("LINES that leave no PLACING", f.possible(0, 0) + f.possible(0, 1) + f.isPossible(0, 0, 9, 0), 0);
         f.wrong(1);
         due("with one WRONG: those below the CLIFF again", f.possible(0, 1), 10);
+    }
+
+    private static void possibleByLaterLand() {
+        says(19, "A PLACING in a COAST: a WATER CELL for each LINE");
+        FogIsland f = withSquare();
+        f.box(8, 15, 9, 15);
+        f.line(0, 0, 0, 0, 0);
+        f.line(1, 0, 0, 0, 0);
+        due("the one that does not come on LAND", f.possible(0, 0), 1);
+        due("it is 8, 15", f.isPossible(0, 0, 8, 15) * 10 + f.isPossible(0, 0, 9, 15), 10);
+        f.box(9, 15, 9, 15);
+        due("the one that does", f.possible(0, 0), 0);
+        FogIsland g = new FogIsland();
+        island(g, from(0, 0, 1, 1), 0, 0, 0, 0);
+        g.box(1, 0, 1, 0);
+        g.line(0, 0, 0, 0, 0);
+        g.line(-1, 0, 0, 0, 0);
+        due("LAND at 0, 0", g.possible(0, 0), 0);
+    }
+
+    /** From both starts one comes to where but one note of LINE 1 is wrong; at 7, 5 that of LINE 0 is wrong as well. */
+    private static void possibleByAnotherStart() {
+        says(19, "but for as many as may be WRONG (0 to 3 of all; 0 at first).");
+        for (int may = 0; may <= 3; may++) {
+            FogIsland f = withSquare();
+            f.sounder(0, 5, 0, 0);
+            law(f, "vd(0=0)");
+            f.box(7, 5, 9, 5);
+            f.line(0, 0, 0, 0, 0);
+            f.hears(0, 9, 0);
+            f.line(0, 0, 1, 0, 0);
+            f.echo(3, 64);
+            for (int i = 0; i < may; i++) {
+                f.hears(0, 8, 0);
+            }
+            f.wrong(may);
+            due("7, 5 with " + may + " WRONG", f.isPossible(0, 0, 7, 5), may >= 2 ? 1 : 0);
+            due("9, 5 with " + may + " WRONG", f.isPossible(0, 0, 9, 5), may >= 1 ? 1 : 0);
+            due("it FITS with " + may + " WRONG", f.fits(0), may >= 1 ? 1 : 0);
+        }
+    }
+
+    /** Three lines below the cliff, three to the right each time, with an echo that holds at 10 to 19. */
+    private static FogIsland alongTheCliff() {
+        FogIsland f = withSquare();
+        f.box(0, 0, 31, 0);
+        f.line(0, 0, 0, 0, 0);
+        f.echo(1, 0);
+        f.line(0, 9, 0, 0, 0);
+        f.echo(0, 2);
+        f.line(3, 0, 0, 0, 0);
+        f.echo(0, 2);
+        f.line(3, 0, 0, 0, 0);
+        f.echo(0, 2);
+        return f;
+    }
+
+    private static void possibleByWrongNotes() {
+        says(19, "but for as many as may be WRONG (0 to 3 of all; 0 at first). A COAST FITS, if there is one. "
+            + "POSSIBLE is a CELL at a LINE in a COAST, if some PLACING has it there.");
+        // By how many may be WRONG: the first and the last x of LINE 0; with all three, what stays on the CELLS.
+        int[][] ends = {{10, 13}, {7, 16}, {4, 19}, {0, 25}};
+        FogIsland f = alongTheCliff();
+        FogIsland g = alongTheCliff();
+        g.echo(3, 64);
+        for (int may = 3; may >= 0; may--) {
+            due("each time in a new object, " + may + " WRONG", possibleRow(alongTheCliff(), may, ends[may]), 4);
+            due("in one object, " + may + " WRONG", possibleRow(f, may, ends[may]), 4);
+            due("and a NOTE that can't hold, " + may + " WRONG", possibleRow(g, may, may == 0 ? null : ends[may - 1]), 4);
+        }
+    }
+
+    /** At how many of the four lines those cells alone are possible, by so many that may be wrong; ends: null for none. */
+    private static int possibleRow(FogIsland f, int may, int[] ends) {
+        int[] atX = {0, 0, 3, 6};
+        int[] atY = {0, 9, 9, 9};
+        due("asked before (1)", f.possible(0, 0) >= 0, true);
+        f.wrong(may);
+        int right = 0;
+        for (int line = 0; line < 4; line++) {
+            boolean all = f.possible(0, line) == (ends == null ? 0 : ends[1] - ends[0] + 1);
+            for (int x = 0; x < 32; x++) {
+                boolean want = ends != null && x - atX[line] >= ends[0] && x - atX[line] <= ends[1];
+                all = all && f.isPossible(0, line, x, atY[line]) == (want ? 1 : 0);
+            }
+            right += all ? 1 : 0;
+        }
+        return right;
+    }
+
+    /** What was asked before a line or a note came does not change what is answered behind it. */
+    private static void wrongNotesAskedByAndBy() {
+        says(18, "all NOTES hold (a LEVEL that is not farther off than ERROR; an ECHO that comes or may come after just so many counts, "
+            + "or 0 that does not come or may not) but for as many as may be WRONG");
+        FogIsland f = withSquare();
+        f.wrong(1);
+        f.box(0, 9, 31, 9);
+        f.line(0, 0, 0, 0, 0);
+        f.echo(0, 2);
+        askedTwice(f, 0, 32);
+        f.line(3, 0, 0, 0, 0);
+        askedTwice(f, 0, 29);
+        f.echo(0, 2);
+        askedTwice(f, 0, 13);
+        f.line(3, 0, 0, 0, 0);
+        askedTwice(f, 1, 13);
+        f.echo(0, 2);
+        askedTwice(f, 1, 10);
+        f.back();
+        askedTwice(f, 1, 13);
+        f.back();
+        askedTwice(f, 0, 32);
+        f.line(3, 0, 0, 0, 0);
+        askedTwice(f, 0, 29);
+        f.back();
+        askedTwice(f, 0, 32);
+        f.echo(0, 2);
+        askedTwice(f, 0, 10);
+    }
+
+    private static void askedTwice(FogIsland f, int line, int want) {
+        due("FITS", f.fits(0), 1);
+        due("FITS, asked again", f.fits(0), 1);
+        due("CELLS POSSIBLE at LINE " + line, f.possible(0, line), want);
     }
 }

@@ -215,6 +215,14 @@ final class MapSentences extends Sentences {
         due("a COAST that does not FIT has none", now.next(3), 18);
         noLand(now);
         due("in three COASTS", now.next(3), 27);
+        FogIsland once = withSquare();
+        once.line(0, 0, 0, 0, 0);
+        once.wrong(3);
+        due("all WATER CELLS", once.possible(0, 0), 924);
+        once.wrong(0);
+        once.box(5, 31, 5, 31);
+        once.choice(0, 0, -9, 0);
+        due("none but the one of the highest row", once.next(1), 1);
     }
 
     private static void nextOfLikeOnes() {
@@ -295,6 +303,11 @@ final class MapSentences extends Sentences {
         g.line(0, 0, 0, 0, 0);
         g.choice(3, 0, 0, 2);
         due("what is UNKNOWN may keep silent twice", g.ahead(0) * 100 + g.ahead(1), 302);
+        FogIsland h = withSquare();
+        onlyAt(h, 15, 9, 16, 9, 0, 0);
+        h.choice(0, 0, 0, 3);
+        h.choice(1, 0, 0, 0);
+        due("0 first, then 0 once and 2 twice", h.ahead(0) * 100 + h.ahead(1), 2);
     }
 
     private static void aheadByAnswer() {
@@ -360,6 +373,21 @@ final class MapSentences extends Sentences {
         FogIsland g = withSquare();
         due("past the nearer end", g.wayIn(13, 5, 13, 25, 0) * 100 + g.wayIn(13, 5, 13, 25, 100), 3 * 100 + 28);
         due("past the other end", g.wayIn(16, 5, 16, 25, 0) * 100 + g.wayIn(16, 5, 16, 25, 100), 100 + 28);
+        due("the first way again", g.wayIn(13, 5, 13, 25, 100), 28);
+        due("another start, the same end", g.wayIn(13, 4, 13, 25, 100), 29);
+        due("the same start, another end", g.wayIn(13, 4, 13, 24, 100), 28);
+        FogIsland ring = new FogIsland();
+        island(ring, from(1, 1, 31, 31), 0, 0, 0, 0);
+        // Round each end of the CELLS: from, to, the first DIRECTION and the second one.
+        int[][] ends = {{0, 5, 5, 0, 2, 1}, {5, 0, 0, 5, 3, 0}, {26, 0, 31, 5, 1, 0}, {31, 5, 26, 0, 2, 3}, {31, 26, 26, 31, 0, 3}, {26, 31, 31, 26, 1, 2},
+            {5, 31, 0, 26, 3, 2}, {0, 26, 5, 31, 0, 1}};
+        for (int[] e : ends) {
+            due(Arrays.toString(e) + " steps", ring.wayIn(e[0], e[1], e[2], e[3], 100), 10);
+            due(Arrays.toString(e) + " TURNS", ring.wayIn(e[0], e[1], e[2], e[3], -1), 1);
+            for (int i = 0; i < 10; i++) {
+                due(Arrays.toString(e) + " step " + i, ring.wayIn(e[0], e[1], e[2], e[3], i), i < 5 ? e[4] : e[5]);
+            }
+        }
         says(24, "of like ones the least row of DIRECTIONS.");
         int[][] ties = {{0, 0, 5, 5, 0, 1}, {5, 5, 0, 0, 2, 3}, {0, 5, 5, 0, 1, 2}, {5, 0, 0, 5, 0, 3}};
         for (int[] t : ties) {
