@@ -39,9 +39,9 @@ public final class FogIsland {
     private static final int ANSWERS = 32;
 
     private final Tape tape = new Tape();
-    private final Ear ear = new Ear();
-    private final LawReader reader = new LawReader(tape);
-    private final Log log = new Log(ear);
+    private final LawReader reader = new LawReader();
+    private final Log log = new Log();
+    private final Ear ear = log.ear;
     private final Chart chart = new Chart();
     private final Way way = new Way();
     private final Shouts shouts = new Shouts();
@@ -87,7 +87,7 @@ public final class FogIsland {
         if (!within(n, 1, MOST_TEXT) || tape.size < n) {
             return NONE;
         }
-        int answer = reader.read(n, ear.spare);
+        int answer = reader.read(tape, n, ear.spare);
         tape.size = 0;
         if (answer >= 0) {
             ear.takeSpare();
@@ -780,21 +780,20 @@ public final class FogIsland {
         private static final int CLAUSE_TOO_MANY = 4;
         private static final int TOO_DEEP = 5;
 
-        private final int[] text;
+        private final int[] text = new int[MOST_TEXT];
         private Law law;
         private int length;
         private int at;
         private int fault;
 
-        LawReader(Tape tape) {
-            text = tape.bytes;
-        }
-
         /** How many clauses the first n bytes have, or the fault as law() tells it. */
-        int read(int n, Law into) {
+        int read(Tape tape, int n, Law into) {
             law = into;
             law.clear();
             length = Math.min(n, text.length);
+            for (int i = 0; i < length; i++) {
+                text[i] = tape.at(i);
+            }
             at = 0;
             fault = 0;
             boolean more = true;
@@ -1032,8 +1031,10 @@ public final class FogIsland {
                 listen(note.subject, line.hour, line.wind);
             }
             int found = 0;
-            for (int left = asked; left != 0; left &= left - 1) {
+            int left = asked;
+            for (int k = 0; left != 0 && k < SIDE; k++) {
                 int x = lowestBit(left);
+                left &= left - 1;
                 boolean holds;
                 if (note.isEcho) {
                     holds = note.fitsView(coast.views[note.subject * CELLS + y * SIDE + x]);
@@ -1108,17 +1109,13 @@ public final class FogIsland {
         int boxFrom;
         int boxTo = SIDE - 1;
         int boxRow = -1;
-        private final Ear ear;
+        final Ear ear = new Ear();
         private final int[] drifted = new int[SIDE];
         private final int[] onward = new int[(MOST_WRONG + 1) * SIDE];
         private final int[] places = new int[SIDE];
         private int placesCoast;
         private int placesLine;
         private int placesChange;
-
-        Log(Ear ear) {
-            this.ear = ear;
-        }
 
         void add(int dx, int dy, int drift, int hour, int wind) {
             if (size >= MOST_LINES) {
@@ -1562,8 +1559,9 @@ public final class FogIsland {
             for (int y = Math.max(0, -dy[i]); y <= last; y++) {
                 int row = moved(coast.reach[from + y], dx[i]) & ~coast.landRows[y + dy[i]];
                 int at = direction[i] * CELLS + (y + dy[i]) * SIDE;
-                for (int left = row; left != 0; left &= left - 1) {
-                    int view = coast.views[at + lowestBit(left)];
+                for (int k = 0; row != 0 && k < SIDE; k++) {
+                    int view = coast.views[at + lowestBit(row)];
+                    row &= row - 1;
                     int steps = echoSteps(view);
                     if (steps > 0) {
                         counts[steps]++;
@@ -1648,8 +1646,9 @@ public final class FogIsland {
                     row = moved(row, dx[j]) & ~coast.landRows[y2];
                     int at1 = direction[i] * CELLS + y1 * SIDE - dx[j];
                     int at2 = direction[j] * CELLS + y2 * SIDE;
-                    for (int left = row; left != 0; left &= left - 1) {
-                        int x = lowestBit(left);
+                    for (int k = 0; row != 0 && k < SIDE; k++) {
+                        int x = lowestBit(row);
+                        row &= row - 1;
                         addPairs(coast.views[at1 + x], coast.views[at2 + x]);
                     }
                 }

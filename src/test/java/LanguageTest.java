@@ -36,6 +36,7 @@ public final class LanguageTest {
         }
         must(FogIsland.class.getDeclaredClasses().length + 1 <= 12, "rule 11: more than twelve classes");
         words(text);
+        loops(text);
         methodLengths(text);
         System.out.println(wrong == 0 ? "the rules that are looked at are kept" : wrong + " rules are broken");
         if (wrong != 0) {
@@ -116,6 +117,16 @@ public final class LanguageTest {
         }
         for (int i = 0; i < text.length(); i++) {
             must(text.charAt(i) < 127, "a sign beyond 126 at " + i);
+        }
+    }
+
+    /** Rule 9, as far as a row shows it: each loop holds a counter against a bound, or runs over an array. */
+    private static void loops(String text) {
+        String[] rows = bare(text).split("\n");
+        for (int i = 0; i < rows.length; i++) {
+            boolean loop = rows[i].matches("\\s*(for|while) \\(.*");
+            must(!loop || rows[i].matches(".*[<>]=? .*") || rows[i].matches(".* : .*"), "rule 9: " + rows[i].trim());
+            must(!rows[i].matches(".*\\bdo \\{.*"), "rule 9: a bound that stands behind its loop: " + rows[i].trim());
         }
     }
 
